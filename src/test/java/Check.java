@@ -1,0 +1,57 @@
+import java.util.Objects;
+
+/** Compares answers with what is due, prints what differs, and ends with exit code 1 if anything did. */
+final class Check {
+    private int wrong;
+
+    void due(String call, long got, long want) {
+        if (got != want) {
+            say(call + " answered " + got + ", due is " + want);
+        }
+    }
+
+    void due(String what, Object got, Object want) {
+        if (!Objects.equals(got, want)) {
+            say(what + " is " + got + ", due is " + want);
+        }
+    }
+
+    /** THE FRACTION, as it stands. */
+    void fraction(String call, ThrownOver x, long above, long below) {
+        due(call + ": above", x.part(0), above);
+        due(call + ": below", x.part(1), below);
+    }
+
+    void status(String when, ThrownOver x, int bad, int no, int full) {
+        due(when + ": status(0)", x.status(0), bad);
+        due(when + ": status(1)", x.status(1), no);
+        due(when + ": status(2)", x.status(2), full);
+    }
+
+    void say(String what) {
+        wrong++;
+        if (wrong <= 50) {
+            System.out.println(what);
+        }
+    }
+
+    void end() {
+        if (wrong != 0) {
+            System.out.println(wrong + " answers are not as due");
+            System.exit(1);
+        }
+    }
+
+    static void type(ThrownOver x, String text) {
+        for (int i = 0; i < text.length(); i++) {
+            x.type(text.charAt(i));
+        }
+    }
+
+    /** The text takes the place of the one that was there, and is read. */
+    static int read(ThrownOver x, String text) {
+        x.clear();
+        type(x, text);
+        return x.read();
+    }
+}
