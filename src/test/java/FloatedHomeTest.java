@@ -84,6 +84,9 @@ public final class FloatedHomeTest {
         check.due("two of hold 2", x.whose(), 9);
         x.seen(40, 0, 3);
         check.due("none fits", x.whose(), 0);
+        x.forget();
+        x.seen(1, 60, 0);
+        check.due("the first goods", x.whose(), 8);
     }
 
     private static void promise24Asks() {
@@ -119,6 +122,20 @@ public final class FloatedHomeTest {
         x.over(1);
         x.over(0);
         check.due("nothing parts them", x.asks(), 0);
+        x.ship(0, 60);
+        x.goods(0, 0, 0, 1, 0, 0);
+        x.goods(4, 0, 0, 1, 0, 0);
+        x.over(1);
+        x.over(0);
+        check.due("parted by kind 0, that is not over its under-kinds here", x.asks(), 3);
+        x.ship(0, 60);
+        for (int k = 0; k < 8; k++) {
+            x.goods(5, 0, 2, 1, 0, 0);
+        }
+        for (int k = 7; k >= 0; k--) {
+            x.over(k);
+        }
+        check.due("eight alike", x.asks(), 0);
         check.status("asks", x, 0, 0, 0);
     }
 

@@ -6,6 +6,7 @@ public final class OverboardTest {
         promise15Least();
         promise15Ties();
         promise15Order();
+        promise15EightInOneHold();
         promise15Refused();
         promise16Needful();
         promise17Stow();
@@ -47,6 +48,13 @@ public final class OverboardTest {
         x.goods(0, 0, 0, 40, 0, 0);
         x.goods(0, 0, 1, 1, 0, 0);
         check.due("no worth is lost: fewest", x.least(0, -2), 1);
+        for (int hold = 0; hold < 3; hold++) {
+            x.ship(0, 4);
+            x.goods(0, 0, hold, 1, 3, 0);
+            x.goods(0, 0, hold, 1, 3, 0);
+            x.goods(0, 0, (hold + 1) % 3, 2, 6, 0);
+            check.due("one rather than two of hold " + hold, x.least(2, -2), 4);
+        }
     }
 
     private static void promise15Order() {
@@ -65,6 +73,21 @@ public final class OverboardTest {
         check.due("far beyond", x.least(8, Integer.MAX_VALUE), -5);
         check.due("first of an empty one", x.least(0, 0), -5);
         check.status("order", x, 0, 0, 0);
+    }
+
+    private static void promise15EightInOneHold() {
+        for (int hold = 0; hold < 3; hold++) {
+            ThrownOver x = new ThrownOver();
+            x.ship(0, 8);
+            for (int k = 0; k < 8; k++) {
+                x.goods(0, 0, hold, 1, k, 0);
+            }
+            for (int f = 0; f <= 8; f++) {
+                check.due("eight in hold " + hold + ", storm " + f, x.least(f, -2), 255 & -1 << 8 - f);
+            }
+            check.due("the last to go", x.least(8, 7), 0);
+            check.due("what they were worth", x.least(8, -1), 28);
+        }
     }
 
     private static void promise15Refused() {
@@ -87,6 +110,9 @@ public final class OverboardTest {
         check.due("31 of 30 with the one", x.needful(1), 2);
         check.due("both", x.needful(6), 6);
         check.due("lost anyhow", x.needful(21), 6);
+        x.over(0);
+        check.due("10 of 10 with the first", x.needful(20), 6);
+        check.due("10 of 9 with the first", x.needful(21), 7);
         check.due("needful(-1)", x.needful(-1), ThrownOver.BAD);
         check.due("needful(201)", x.needful(201), ThrownOver.BAD);
         check.status("needful", x, 2, 0, 0);

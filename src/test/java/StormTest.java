@@ -187,7 +187,7 @@ public final class StormTest {
         check.due("net(4)", x.net(4), ThrownOver.BAD);
         check.due("net(-1)", x.net(-1), ThrownOver.BAD);
         check.fraction("a refused net", x, 40, 17);
-        x.net(2);
+        check.due("net(0)", x.net(0), 1);
         check.fraction("net of none", x, 0, 1);
         x.ship(0, 60);
         x.goods(4, 2, 0, 1, 9, 9);

@@ -42,6 +42,10 @@ public final class WhatThereIsTest {
         check.due("from(1) of none", x.from(1), ThrownOver.NO);
         x.ship(1, 2);
         x.goods(0, 0, 0, 1, 1, 1);
+        x.goods(0, 0, 1, 1, 1, 1);
+        x.seen(9, 9, 0);
+        x.over(0);
+        x.over(1);
         long small = x.digest();
         check.due("image(1)", x.image(1), 1);
         check.due("from(0)", x.from(0), 1);
@@ -52,6 +56,8 @@ public final class WhatThereIsTest {
         x.tells(0, 60);
         check.due("from(1)", x.from(1), 1);
         check.due("from(1): digest", x.digest(), small);
+        check.due("undo goes on", x.undo(), 1);
+        check.due("the last one first", x.of(1, 6), 1);
         check.due("from(0) again", x.from(0), 1);
         check.due("the image is as it was kept", x.digest(), full);
         x.image(1);
