@@ -165,7 +165,7 @@ public final class ShipTest {
             "", "0", " ", "1", "ship", "4", "ship 1", "6", "ship 1 2", "8", "ship 1 2 ", "9",
             "ship 1 2;goods 0 0 0 1 0 0", "26", "ship 1 2;over", "13",
             "goods 0 0 0 1 0 0;", "0", " over 0;", "1", "; ship 1 2;", "0", "7;", "0",
-            "xhip 1 2;", "0", "shiq 1 2;", "0", "ship 1 2;goodsz", "9", "ship 1 2;agoods", "9", "ship 1 2;over{", "13",
+            "xhip 1 2;", "0", "shiq 1 2;", "0", "ship 1 2;goodsz", "9", "ship 1 2;goodsa", "9", "ship 1 2;agoods", "9", "ship 1 2;over{", "13",
             "ship 1 2;over`", "13", "ship 1/2;", "6", "ship 1:2;", "6", "shi 1 2;", "0", "ships 1 2;", "0", "SHIP 1 2;", "0", "ship 1 2;ship 1 2;", "9",
             "ship 100 2;", "5", "ship 1 201;", "7", "ship 1 999;", "7", "ship 0001 2;", "5", "ship 1 0002;", "7",
             "ship 1 2 3;", "9", "ship 1;2;", "6", "ship ship 2;", "5", "ship 1 2;;", "9", "ship 1 2 goods", "9",
