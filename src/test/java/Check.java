@@ -1,8 +1,36 @@
+import java.io.IOException;
+import java.io.UncheckedIOException;
+import java.nio.file.Files;
+import java.nio.file.Path;
 import java.util.Objects;
 
 /** Compares answers with what is due, prints what differs, and ends with exit code 1 if anything did. */
 final class Check {
+    private static final String DOCUMENT = document();
     private int wrong;
+    private String sentence = "";
+
+    private static String document() {
+        String root = System.getenv("THROWN_OVER_ROOT");
+        try {
+            return spaced(Files.readString(Path.of(root == null ? "." : root, "..", "shared", "DOC.md")));
+        } catch (IOException e) {
+            throw new UncheckedIOException(e);
+        }
+    }
+
+    private static String spaced(String words) {
+        return words.replaceAll("\\s+", " ");
+    }
+
+    /** The words of the document that all answers from here on are due by. */
+    void sentence(String words) {
+        sentence = "";
+        if (!DOCUMENT.contains(words)) {
+            say("the document does not say: " + words);
+        }
+        sentence = "[" + words + "] ";
+    }
 
     void due(String call, long got, long want) {
         if (got != want) {
@@ -31,7 +59,7 @@ final class Check {
     void say(String what) {
         wrong++;
         if (wrong <= 50) {
-            System.out.println(what);
+            System.out.println(sentence + what);
         }
     }
 

@@ -1,6 +1,4 @@
-import java.lang.reflect.Method;
 import java.util.ArrayList;
-import java.util.Arrays;
 import java.util.List;
 import java.util.Random;
 
@@ -8,27 +6,12 @@ import java.util.Random;
 public final class ModelTest {
     private static final int RUNS = 3000;
     private static final int CALLS = 150;
+    private static final int MOST_GOODS = 8;
     private static final Check check = new Check();
 
-    /** A call and, for each argument, the least and the most that is as told. */
-    private record Call(String name, int often, int... limits) { }
-
-    private static final Call[] CALLS_TO_MAKE = {
-        new Call("ship", 1, 0, 99, 0, 200), new Call("goods", 24, 0, 5, 0, 3, 0, 2, 1, 40, 0, 60, 0, 60),
-        new Call("tells", 3, 0, 7, 0, 60), new Call("type", 1, 0, 127), new Call("clear", 1), new Call("read", 1),
-        new Call("over", 12, 0, 7), new Call("undo", 4), new Call("of", 4, 0, 7, 0, 7), new Call("lives", 3, 0, 200),
-        new Call("now", 4, 0, 3), new Call("share", 4, 0, 4), new Call("net", 4, 0, 3),
-        new Call("least", 10, 0, 200, -2, 8), new Call("needful", 3, 0, 200), new Call("stow", 8, 0, 7, 0, 200),
-        new Call("tell", 4, 0, 7), new Call("marked", 3, 0, 7, 0, 60), new Call("seen", 3, 1, 40, 0, 60, 0, 3),
-        new Call("forget", 2), new Call("barrel", 3), new Call("whose", 3), new Call("asks", 4),
-        new Call("odds", 3, 0, 191), new Call("safe", 2), new Call("voyages", 4, 0, 999999, 0, 30),
-        new Call("part", 6, 0, 1), new Call("image", 2, 0, 1), new Call("from", 2, 0, 1),
-        new Call("status", 3, 0, 2), new Call("count", 3, 0, 6), new Call("digest", 1),
-    };
-
-    public static void main(String[] args) throws ReflectiveOperationException {
+    public static void main(String[] args) {
         List<Call> bag = new ArrayList<>();
-        for (Call call : CALLS_TO_MAKE) {
+        for (Call call : Call.ALL) {
             for (int i = 0; i < call.often(); i++) {
                 bag.add(call);
             }
@@ -42,7 +25,7 @@ public final class ModelTest {
         check.end();
     }
 
-    private static void oneRun(int run, List<Call> bag) throws ReflectiveOperationException {
+    private static void oneRun(int run, List<Call> bag) {
         Random random = new Random(run);
         ThrownOver x = new ThrownOver();
         Model model = new Model();
@@ -50,11 +33,12 @@ public final class ModelTest {
         int spread = run % 3 == 0 ? 4 : Integer.MAX_VALUE;
         for (int i = 0; i < CALLS; i++) {
             Call call = bag.get(random.nextInt(bag.size()));
-            int[] a = new int[call.limits().length / 2];
+            int[] a = new int[call.arguments()];
             for (int j = 0; j < a.length; j++) {
-                a[j] = argument(random, call.limits()[2 * j], call.limits()[2 * j + 1], spread);
+                int most = call.most(j, MOST_GOODS);
+                a[j] = argument(random, call.least(j), most == Call.NO_MOST ? MOST_GOODS : most, spread);
             }
-            compare(run, i, x, model, call.name(), a);
+            check.due("run " + run + ", call " + i + ": " + call.told(a), call.on(x, a), call.on(model, a));
         }
         check.due("run " + run + ": digest()", x.digest(), model.digest());
     }
@@ -71,24 +55,6 @@ public final class ModelTest {
             return random.nextInt();
         }
         return least + random.nextInt(Math.min(most - least + 1, kind < 50 ? spread : Integer.MAX_VALUE));
-    }
-
-    private static void compare(int run, int i, ThrownOver x, Model model, String name, int... a)
-            throws ReflectiveOperationException {
-        long got = call(x, name, a);
-        long want = call(model, name, a);
-        check.due("run " + run + ", call " + i + ": " + name + Arrays.toString(a), got, want);
-    }
-
-    private static long call(Object on, String name, int[] a) throws ReflectiveOperationException {
-        Class<?>[] types = new Class<?>[a.length];
-        Object[] arguments = new Object[a.length];
-        for (int j = 0; j < a.length; j++) {
-            types[j] = int.class;
-            arguments[j] = a[j];
-        }
-        Method method = on.getClass().getDeclaredMethod(name, types);
-        return ((Number) method.invoke(on, arguments)).longValue();
     }
 
     /** Texts that are nearly right, so that faults of each kind and good ones come. */
