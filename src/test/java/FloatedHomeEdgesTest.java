@@ -276,6 +276,11 @@ public final class FloatedHomeEdgesTest {
         ThrownOver y = floated(new int[] {1, 0}, new int[] {1, 0}, new int[] {1, 0}, new int[] {1, 0},
             new int[] {1, 0}, new int[] {1, 0}, new int[] {1, 0}, new int[] {2, 0});
         check.due("seven and one", y.asks(), 1);
+        y.undo();
+        check.due("no more of goods 0: six and one", y.asks(), 1);
+        int[] alike = {2, 5};
+        ThrownOver z = floated(alike, alike, alike, alike, alike, alike, alike, alike);
+        check.due("eight alike: the first question", z.asks(), 0);
     }
 
     private static void askNone() {

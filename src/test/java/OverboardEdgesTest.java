@@ -89,16 +89,22 @@ public final class OverboardEdgesTest {
 
     private static void leastOfAll() {
         check.sentence("which, how much; the i-th to be THROWN");
-        ThrownOver x = new ThrownOver();
-        for (int k = 0; k < 8; k++) {
-            x.goods(0, 0, 0, 40, 60, 0);
+        for (int hold = 0; hold < 3; hold++) {
+            ThrownOver x = new ThrownOver();
+            x.ship(0, 200);
+            for (int k = 0; k < 8; k++) {
+                x.goods(0, 0, hold, 25, 60, 0);
+            }
+            for (int f = 0; f <= 200; f++) {
+                int must = (f + 24) / 25;
+                check.due("hold " + hold + ": " + must + " must go", x.least(f, WHICH), 255 & -1 << 8 - must);
+            }
+            check.due("how much", x.least(200, HOW_MUCH), 480);
+            for (int i = 0; i < 8; i++) {
+                check.due("the " + i + "-th", x.least(200, i), 7 - i);
+            }
+            check.due("a ninth", x.least(200, 8), -5);
         }
-        check.due("which", x.least(60, WHICH), 255);
-        check.due("how much", x.least(60, HOW_MUCH), 480);
-        for (int i = 0; i < 8; i++) {
-            check.due("the " + i + "-th", x.least(60, i), 7 - i);
-        }
-        check.due("a ninth", x.least(60, 8), -5);
     }
 
     private static void leastOfNone() {
@@ -378,6 +384,14 @@ public final class OverboardEdgesTest {
         check.due("there is no LEAST", x.stow(0, 61), NONE);
         check.due("the greatest STORM", x.stow(0, 200), NONE);
         check.status("NONE is no refusal", x, 0, 0, 0);
+        ThrownOver y = new ThrownOver();
+        y.ship(0, 20);
+        y.goods(0, 0, 2, 10, 9, 0);
+        y.goods(0, 0, 1, 10, 9, 0);
+        y.goods(0, 0, 0, 10, 8, 0);
+        check.due("others could go, but these are the cheapest everywhere", y.stow(2, 0), NONE);
+        check.due("on goods 2 the like goods 0 of the least bits go", y.stow(1, 0), 0);
+        check.due("goods 0 themselves would go there", y.stow(0, 0), 1);
     }
 
     private static void promise17Bad() {

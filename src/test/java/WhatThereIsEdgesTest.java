@@ -204,21 +204,29 @@ public final class WhatThereIsEdgesTest {
         check.sentence("what may be undone they keep");
         ThrownOver x = State.EMPTIED.made();
         x.image(0);
-        for (int i = 0; i < 8; i++) {
-            x.undo();
-        }
+        undoAll(x);
         x.image(1);
         check.due("nothing may be", x.undo(), NO);
         x.from(0);
-        check.due("all may be", x.count(5), 8);
-        for (int i = 1; i <= 8; i++) {
-            check.due("undo " + i, x.undo(), i);
-            check.due("in their order", x.of(i - 1, 7), 1);
-        }
+        undoAll(x);
+        x.over(5);
+        x.over(6);
+        x.over(7);
+        x.from(0);
+        undoAll(x);
         x.over(7);
         x.from(1);
         check.due("nothing may be again", x.undo(), NO);
         check.due("all on board", x.count(1), 8);
+    }
+
+    /** Goods 7 to 0 were thrown in this order: they come back from 0 on. */
+    private static void undoAll(ThrownOver x) {
+        check.due("all may be", x.count(5), 8);
+        for (int k = 0; k < 8; k++) {
+            check.due("undo", x.undo(), k + 1);
+            check.due("in their order", x.of(k, 7), 1);
+        }
     }
 
     private static void itGoesOnFromOne() {
