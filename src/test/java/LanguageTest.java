@@ -3,82 +3,105 @@ import java.nio.file.Files;
 import java.nio.file.Path;
 import java.util.Set;
 import java.util.TreeSet;
-import java.util.regex.Matcher;
-import java.util.regex.Pattern;
 
-/** Those rules of LANGUAGE.md that a scan of the source, or a count of what calls make, can see. */
+/** The class keeps to LANGUAGE.md, as far as its tree (LanguageRules) and a count of what calls make can tell. */
 public final class LanguageTest {
-    private static final Set<String> NEVER = Set.of("throw", "throws", "try", "catch", "finally", "synchronized",
-        "assert", "import", "package", "var", "record", "native", "transient", "volatile", "hashCode", "toString",
-        "System.out", "Random", "Thread", "Object", "Exception");
-    private static final Set<String> LIBRARY = Set.of("String", "System", "Math", "Integer", "Long");
-    private static final int MOST_CLASSES = 12;
-    private static final int MOST_LINES = 60;
-    private static final int MOST_PARAMETERS = 7;
+    private static final int MOST_WIDE = 120;
     private static final Check check = new Check();
 
     public static void main(String[] args) throws IOException {
         String root = System.getenv("THROWN_OVER_ROOT");
         Path file = Path.of(root == null ? "." : root, "src", "main", "java", "ThrownOver.java");
         String source = Files.readString(file);
-        for (char c : source.toCharArray()) {
-            if (c > 127) {
-                check.say("rule 3: sign " + (int) c);
-            }
-        }
-        String code = withoutComments(source);
-        words(code);
-        methods(code);
+        signs(source);
+        check.due("what of LANGUAGE.md is broken", LanguageRules.broken(source), Set.of());
+        rulesAreSeen();
         callsMakeNothing();
         check.end();
     }
 
-    private static String withoutComments(String source) {
-        return source.replaceAll("(?s)/\\*.*?\\*/", "").replaceAll("//[^\n]*", "");
-    }
-
-    private static void words(String code) {
-        Set<String> own = new TreeSet<>();
-        Matcher classes = Pattern.compile("\\bclass (\\w+)").matcher(code);
-        while (classes.find()) {
-            own.add(classes.group(1));
-        }
-        if (own.size() > MOST_CLASSES) {
-            check.say("rule 11: " + own.size() + " classes");
-        }
-        String bare = code.replaceAll("\"[^\"]*\"", "\"\"");
-        Matcher words = Pattern.compile("[A-Za-z_]\\w*").matcher(bare);
-        while (words.find()) {
-            String word = words.group();
-            boolean type = Character.isUpperCase(word.charAt(0)) && !word.equals(word.toUpperCase());
-            if (NEVER.contains(word) || word.endsWith("Exact")
-                    || type && !own.contains(word) && !LIBRARY.contains(word)) {
-                check.say("rule 4 or 6: " + word);
+    private static void signs(String source) {
+        for (char c : source.toCharArray()) {
+            if (c > 126 || c < 32 && c != '\n') {
+                check.say("rule 3: sign " + (int) c);
             }
         }
-        if (bare.contains("->") || bare.contains("::") || bare.contains("@")) {
-            check.say("rule 2: a lambda, a method reference or a note");
+        for (String line : source.split("\n")) {
+            check.due("too wide: " + line, line.length() > MOST_WIDE, false);
         }
     }
 
-    private static void methods(String code) {
-        Matcher heads = Pattern.compile("(?m)^( +)(?:[\\w\\[\\]]+ )+(\\w+)\\(([^)]*)\\) \\{\n((?s:.*?))^\\1\\}")
-            .matcher(code);
-        int found = 0;
-        int from = 0;
-        while (heads.find(from)) {
-            from = heads.end(3);
-            String name = heads.group(2);
-            if (name.matches("if|for|while|switch")) {
-                continue;
-            }
-            found++;
-            int lines = heads.group(4).split("\n").length;
-            if (lines > MOST_LINES || heads.group(3).split(",").length > MOST_PARAMETERS) {
-                check.say("rule 11: " + name + " has " + lines + " lines, parameters (" + heads.group(3) + ")");
-            }
+    /** Members that break one rule each: were LanguageRules blind to it, a clean bill for the class would say nothing. */
+    private static void rulesAreSeen() {
+        seen(0, "private int f(int x) { for (int i = 0; i < 3; i++) { x += i; } return x / 2; }");
+        seen(0, "private static final int[] ROW = {1, 2}; private int f(int i) { return i == 1 ? ROW[i] : 0; }");
+        seen(1, "int f(int x) { return x; }");
+        seen(1, "public int f() { return 1; } private int f(int x) { return x; }");
+        seen(2, "private class Inner { }");
+        seen(2, "public static class Open { }");
+        seen(2, "private void f() { class Local { } }");
+        seen(2, "private interface One { int g(); } private int f() { One one = () -> 1; return one.g(); }");
+        seen(3, "private Object f;");
+        seen(3, "private String[][] f;");
+        seen(3, "private java.util.Map<String, String> f;");
+        seen(4, "private void f() { System.out.println(); }");
+        seen(4, "private int f(int x) { return Math.addExact(x, 1); }");
+        seen(4, "private long f() { return System.nanoTime(); }");
+        seen(5, "private static int f;");
+        seen(5, "private static final int[] F = new int[3];");
+        seen(5, "private static final int F; static { F = 3; }");
+        seen(5, "private static final int[] F = {1}; private void f() { F[0] = 2; }");
+        seen(5, "private void f(int[] row) { if (row.length > 0) { row[0]++; } }");
+        seen(6, "private void f() { throw new IllegalStateException(); }");
+        seen(6, "private void f() { try { g(); } finally { g(); } } private void g() { }");
+        seen(6, "private boolean f(String a, String b) { return a == b; }");
+        seen(6, "private static class A { } private static class B extends A { } private B f(A a) { return (B) a; }");
+        seen(6, "public String toString() { return \"\"; }");
+        seen(7, "private int f(int x, int y) { return x / y; }");
+        seen(7, "private int f(int x, int y) { x %= y; return x; }");
+        seen(8, "private int f(int x) { return x > 0 ? f(x - 1) : 0; }");
+        seen(9, "private void f() { while (true) { } }");
+        seen(9, "private void f(int x) { while (x < 3 || x != 8) { x++; } }");
+        seen(10, "private String f(String x) { return x + 1; }");
+        seen(11, "private void f(int a, int b, int c, int d, int e, int f, int g, int h) { }");
+        seen(11, "private void f() {" + "\n".repeat(60) + "}");
+        seen(11, "private int a, b, c, d, e, f, g, h, i, j, k, l, m, n, o, p, q, r, s, t, u;");
+        seen(11, classes(12));
+        seen(0, classes(11));
+        seen(11, chain(9));
+        seen(0, chain(8));
+        seen(12, "private int[] f() { return new int[2]; }");
+        seen(12, "private ThrownOver() { f(); } private void f() { }");
+    }
+
+    private static String classes(int n) {
+        StringBuilder all = new StringBuilder();
+        for (int i = 0; i < n; i++) {
+            all.append("private static class C").append(i).append(" { } ");
         }
-        check.due("methods were found", found > 60, true);
+        return all.toString();
+    }
+
+    /** So many methods, each of which calls the next. */
+    private static String chain(int n) {
+        StringBuilder all = new StringBuilder();
+        for (int i = 1; i < n; i++) {
+            all.append("private void f").append(i).append("() { f").append(i + 1).append("(); } ");
+        }
+        return all.append("private void f").append(n).append("() { }").toString();
+    }
+
+    /** 0: the members break no rule. */
+    private static void seen(int rule, String members) {
+        Set<String> numbers = new TreeSet<>();
+        for (String finding : LanguageRules.broken("public final class ThrownOver { " + members + " }")) {
+            numbers.add(finding.substring(0, finding.indexOf(':')));
+        }
+        if (rule == 0) {
+            check.due("rules broken by: " + members, numbers, Set.of());
+        } else {
+            check.due("rule " + rule + " is seen in: " + members, numbers.contains("rule " + rule), true);
+        }
     }
 
     /** Rows are made in the constructor and used again: behind it no call makes any object. */
