@@ -6,7 +6,8 @@ import java.util.Objects;
 
 /** Compares answers with what is due, prints what differs, and ends with exit code 1 if anything did. */
 final class Check {
-    private static final String DOCUMENT = document();
+    /** DOC.md, with one blank for each run of them. */
+    static final String DOCUMENT = document();
     private int wrong;
     private String sentence = "";
 

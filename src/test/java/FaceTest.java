@@ -3,16 +3,14 @@ import java.lang.reflect.Field;
 import java.lang.reflect.Method;
 import java.lang.reflect.Modifier;
 import java.util.Set;
+import java.util.StringJoiner;
 import java.util.TreeSet;
+import java.util.regex.Matcher;
+import java.util.regex.Pattern;
 
 /** The public face is the document's, to the letter, and nothing of the class is seen beside it. */
 public final class FaceTest {
-    private static final String[] METHODS = {
-        "int ship(2)", "int goods(6)", "int tells(2)", "int type(1)", "int clear(0)", "int read(0)", "int over(1)",
-        "int undo(0)", "int of(2)", "int lives(1)", "int now(1)", "int share(1)", "int net(1)", "int least(2)",
-        "int needful(1)", "int stow(2)", "int tell(1)", "int marked(2)", "int seen(3)", "int forget(0)",
-        "int barrel(0)", "int whose(0)", "int asks(0)", "int odds(1)", "int safe(0)", "int voyages(2)",
-        "long part(1)", "int image(1)", "int from(1)", "int status(1)", "int count(1)", "long digest(0)"};
+    private static final Pattern METHOD = Pattern.compile("public (\\w+) (\\w+)\\(([^)]*)\\);");
     private static final Check check = new Check();
 
     public static void main(String[] args) throws IllegalAccessException {
@@ -28,6 +26,18 @@ public final class FaceTest {
         check.end();
     }
 
+    /** The methods of the document's own listing: one for each promise from 2 to 33. */
+    private static Set<String> told() {
+        Set<String> all = new TreeSet<>();
+        Matcher method = METHOD.matcher(Check.DOCUMENT);
+        while (method.find()) {
+            String types = method.group(3).replaceAll("(\\w+) \\w+", "$1");
+            all.add(method.group(1) + " " + method.group(2) + "(" + types + ")");
+        }
+        check.due("methods that the document lists", all.size(), 32);
+        return all;
+    }
+
     private static void methods() {
         Set<String> seen = new TreeSet<>();
         Set<String> names = new TreeSet<>();
@@ -35,14 +45,15 @@ public final class FaceTest {
             if (Modifier.isPrivate(method.getModifiers())) {
                 continue;
             }
-            seen.add(method.getReturnType() + " " + method.getName() + "(" + method.getParameterCount() + ")");
+            StringJoiner types = new StringJoiner(", ");
+            for (Class<?> type : method.getParameterTypes()) {
+                types.add(type.toString());
+            }
+            seen.add(method.getReturnType() + " " + method.getName() + "(" + types + ")");
             names.add(method.getName());
             check.due(method + " modifiers", Modifier.toString(method.getModifiers()), "public");
-            for (Class<?> type : method.getParameterTypes()) {
-                check.due(method + " parameter", type, int.class);
-            }
         }
-        check.due("the methods", seen, new TreeSet<>(Set.of(METHODS)));
+        check.due("the methods", seen, told());
         for (Method method : ThrownOver.class.getDeclaredMethods()) {
             if (Modifier.isPrivate(method.getModifiers()) && names.contains(method.getName())) {
                 check.say("private " + method.getName() + " bears the name of a public one");

@@ -31,7 +31,7 @@ public final class LanguageTest {
         }
     }
 
-    /** Members that break one rule each: were LanguageRules blind to it, a clean bill for the class would say nothing. */
+    /** Members that break a rule each: were LanguageRules blind to it, no finding for the class would mean nothing. */
     private static void rulesAreSeen() {
         seen(0, "private int f(int x) { for (int i = 0; i < 3; i++) { x += i; } return x / 2; }");
         seen(0, "private static final int[] ROW = {1, 2}; private int f(int i) { return i == 1 ? ROW[i] : 0; }");

@@ -6,6 +6,8 @@ import java.util.Random;
 public final class ModelTest {
     private static final int RUNS = 3000;
     private static final int CALLS = 150;
+    /** With the digest at a run's end, as many as an object is used for. */
+    private static final int MOST_CALLS = 511;
     private static final int MOST_GOODS = 8;
     private static final Check check = new Check();
 
@@ -31,7 +33,8 @@ public final class ModelTest {
         Model model = new Model();
         // Some runs have few different numbers, so that like ones are often met.
         int spread = run % 3 == 0 ? 4 : Integer.MAX_VALUE;
-        for (int i = 0; i < CALLS; i++) {
+        int calls = run % 10 == 0 ? MOST_CALLS : CALLS;
+        for (int i = 0; i < calls; i++) {
             Call call = bag.get(random.nextInt(bag.size()));
             int[] a = new int[call.arguments()];
             for (int j = 0; j < a.length; j++) {
